@@ -436,8 +436,8 @@ public final class OtterWrits {
 
     /** Behind how many days just these of some places are wet. */
     private int firstDay(int places, int wanted) {
-        outlook.foretell(told, now, LAST_DAY);
         for (int d = 0; d <= LAST_DAY; d++) {
+            outlook.foretell(told, now, d);
             if ((outlook.wetOn(d) & places) == wanted) {
                 return d;
             }
@@ -862,16 +862,16 @@ public final class OtterWrits {
         }
 
         void step() {
-            while (next < length && isBlank(signs[next])) {
+            while (next < length && (signs[next] == 10 || signs[next] == 32)) {
                 next++;
             }
             start = next;
             value = 0;
             if (next >= length) {
                 token = TOKEN_END;
-            } else if (isLetter(signs[next])) {
+            } else if (signs[next] >= 'a' && signs[next] <= 'z') {
                 readWord();
-            } else if (isDigit(signs[next])) {
+            } else if (signs[next] >= '0' && signs[next] <= '9') {
                 readNumber();
             } else {
                 value = signs[next];
@@ -881,7 +881,7 @@ public final class OtterWrits {
         }
 
         private void readWord() {
-            while (next < length && isLetter(signs[next])) {
+            while (next < length && signs[next] >= 'a' && signs[next] <= 'z') {
                 value = value << 8 | signs[next];
                 next++;
             }
@@ -889,23 +889,11 @@ public final class OtterWrits {
         }
 
         private void readNumber() {
-            while (next < length && isDigit(signs[next])) {
+            while (next < length && signs[next] >= '0' && signs[next] <= '9') {
                 value = value * 10 + (signs[next] - '0');
                 next++;
             }
             token = next - start <= 4 ? TOKEN_NUMBER : TOKEN_NONE;
-        }
-
-        private static boolean isBlank(int sign) {
-            return sign == 10 || sign == 32;
-        }
-
-        private static boolean isLetter(int sign) {
-            return sign >= 'a' && sign <= 'z';
-        }
-
-        private static boolean isDigit(int sign) {
-            return sign >= '0' && sign <= '9';
         }
 
         private static boolean isSign(int sign) {
@@ -1030,10 +1018,6 @@ public final class OtterWrits {
         final int[] stack = new int[MOST_WAITING];
         int size;
 
-        void read(Tape tape) {
-            readExpression(tape, 0);
-        }
-
         private void put(int step) {
             if (size < MOST_SIGNS) {
                 steps[size] = step;
@@ -1041,7 +1025,7 @@ public final class OtterWrits {
             }
         }
 
-        private void readExpression(Tape tape, int depth) {
+        void readExpression(Tape tape, int depth) {
             readTest(tape, depth);
             for (int i = 0; i < MOST_SIGNS && (tape.atWord(WORD_AND) || tape.atWord(WORD_OR)); i++) {
                 int step = tape.atWord(WORD_AND) ? STEP_AND : STEP_OR;
@@ -1389,7 +1373,7 @@ public final class OtterWrits {
                 return;
             }
             tape.step();
-            law.read(tape);
+            law.readExpression(tape, 0);
             tape.passSign(';');
         }
 
