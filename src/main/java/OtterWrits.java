@@ -714,22 +714,22 @@ public final class OtterWrits {
         if (!isPlace(place) || !within(days, 1, 6) || !within(odds, 0, 10)) {
             return NONE;
         }
-        int millionths = weighWet(place, now.water[place], now.day, days, odds);
+        int millionths = weighWet(told, place, now.water[place], now.day, days, odds);
         for (int d = days; d < 6; d++) {
             millionths *= 10;
         }
         return millionths;
     }
 
-    /** Of ten to the power of the days left, how many go to its being wet behind them; days is at most 6. */
-    private int weighWet(int place, int level, int date, int days, int odds) {
+    /** Of ten to the power of the days left (6 at most), how many go to its being wet behind them. */
+    private static int weighWet(County county, int place, int level, int date, int days, int odds) {
         if (days <= 0) {
             return level >= 1 ? 1 : 0;
         }
-        int rainy = told.waterBehind(place, level, MOST_RAIN, date);
-        int clear = told.waterBehind(place, level, 0, date);
-        return odds * weighWet(place, rainy, date + 1, days - 1, odds)
-                + (10 - odds) * weighWet(place, clear, date + 1, days - 1, odds);
+        int rainy = county.waterBehind(place, level, MOST_RAIN, date);
+        int clear = county.waterBehind(place, level, 0, date);
+        return odds * weighWet(county, place, rainy, date + 1, days - 1, odds)
+                + (10 - odds) * weighWet(county, place, clear, date + 1, days - 1, odds);
     }
 
     // ---- an answer at rest
@@ -1025,7 +1025,7 @@ public final class OtterWrits {
             }
         }
 
-        void readExpression(Tape tape, int depth) {
+        private void readExpression(Tape tape, int depth) {
             readTest(tape, depth);
             for (int i = 0; i < MOST_SIGNS && (tape.atWord(WORD_AND) || tape.atWord(WORD_OR)); i++) {
                 int step = tape.atWord(WORD_AND) ? STEP_AND : STEP_OR;

@@ -140,6 +140,10 @@ public final class AheadTest {
         OtterWrits gone = Check.told("place a water 5; place b water 5; place c water 5; stream a b; stream b c;"
                 + "person h bather in c; otter o in a pace 1; writ w for h by 9; wets 3 + ways;");
         Check.same("the person goes to meet it", gone.serves(0, 0), 1);
+        String slow = "place a water 9; place b water 0; stream a b; person p plain in b; otter o in a pace 1; writ w for p by 60; wets level + ";
+        Check.same("behind 60", Check.told(slow + "(date = 59);").serves(0, 0), 60);
+        Check.same("behind 60, in time", Check.told(slow + "(date = 59);").intime(0), 1);
+        Check.same("behind 61", Check.told(slow + "(date = 60);").serves(0, 0), -1);
         OtterWrits dew = Check.told("place a water 0; person e dewy in a; otter o in a pace 1; writ w for e by 9;");
         Check.same("by a dew", dew.serves(0, 0), 0);
     }

@@ -324,8 +324,34 @@ public final class HandTest {
         Check.yes("back to 3 again", x.mark(3, true));
         Check.same("day", x.count(5), 0);
         Check.no("nothing on 1", x.mark(1, true));
+        marksOfOtherThings();
         Check.no("none such", x.mark(4, false));
         Check.no("none such", x.mark(-1, true));
+    }
+
+    private static void marksOfOtherThings() {
+        OtterWrits x = Check.told("place a water 1; place b water 5; otter o in a pace 1; person p plain in a; writ w for p by 1;");
+        x.mark(0, false);
+        x.see(0, 3, true);
+        Check.session(x, "day; take o w;");
+        Check.same("by the first", x.rains(), 0b1111111000);
+        x.mark(1, false);
+        x.mark(0, true);
+        Check.same("nothing is seen", x.rains(), 1023);
+        x.see(1, 7, false);
+        Check.session(x, "take o w; serve w; swim o b;");
+        Check.same("by the second", x.rains(), 0b0000000111);
+        Check.same("judged by the second", x.judged(0), 2);
+        x.mark(2, false);
+        Check.yes("back to 1", x.mark(1, true));
+        Check.same("by the first again", x.rains(), 0b1111111000);
+        Check.same("judged by the first", x.judged(0), -1);
+        Check.yes("back to 2", x.mark(2, true));
+        Check.same("by the second again", x.rains(), 0b0000000111);
+        Check.same("judged by the second again", x.judged(1), 1);
+        Check.yes("laid anew", x.mark(1, false));
+        Check.yes("back to 1", x.mark(1, true));
+        Check.same("as it was laid last", x.rains(), 0b0000000111);
     }
 
     private static void judged() {

@@ -18,7 +18,6 @@ public final class ModelTest {
     private OtterWrits real = new OtterWrits();
     private Model model = new Model();
     private int places;
-    private int persons;
     private int otters;
     private int writs;
 
@@ -171,7 +170,6 @@ public final class ModelTest {
         }
         call(reader);
         places = real.count(0);
-        persons = real.count(2);
         otters = real.count(3);
         writs = real.count(4);
         return calls;

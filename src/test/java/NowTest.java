@@ -133,6 +133,11 @@ public final class NowTest {
         z.see(0, 1, true);
         z.see(0, 1, false);
         Check.same("no rains", z.look(), -1);
+        OtterWrits v = Check.told("place a water 5; wets 8 + (falls = 3);");
+        Check.same("how much is 9", v.look(), 9);
+        OtterWrits u = Check.told("place a water 0; place b water 0; stream a b; wets falls;");
+        u.see(0, 6, true);
+        Check.same("of these alone: 6, 7 from 8, 9", u.look(), 8);
         Check.same("no places", new OtterWrits().look(), -1);
     }
 
