@@ -1,9 +1,13 @@
 import java.nio.charset.StandardCharsets;
 import java.util.NoSuchElementException;
+import java.util.function.BooleanSupplier;
+import java.util.function.IntSupplier;
 
 /** What the tests share: texts fed to an object, and answers held against those that are due. */
 final class Check {
     static final int THROWN = Integer.MIN_VALUE;
+    /** Stands ahead of what is told of a wrong answer. */
+    static String about = "";
     private static int wrong;
 
     private Check() {
@@ -12,7 +16,7 @@ final class Check {
     static void same(String call, long got, long due) {
         if (got != due) {
             wrong++;
-            System.out.println(call + " answered " + got + ", due is " + due);
+            System.out.println(about + call + " answered " + got + ", due is " + due);
         }
     }
 
@@ -77,6 +81,51 @@ final class Check {
     static void sessionFault(OtterWrits x, String text, int kind) {
         int at = text.indexOf('^');
         same("session: " + text, session(x, text.replace("^", "")), kind + 16L * at);
+    }
+
+    /** All that can be asked of how it is, of the session, of what is seen and of the law: some hundred calls. */
+    static String all(OtterWrits x) {
+        StringBuilder s = new StringBuilder();
+        int places = x.count(0);
+        int persons = x.count(2);
+        int otters = x.count(3);
+        int writs = x.count(4);
+        for (int what = 0; what <= 12; what++) {
+            s.append(x.count(what)).append(' ');
+        }
+        for (int p = 0; p < places; p++) {
+            s.append("| ").append(x.place(p, 0)).append(' ').append(x.place(p, 1)).append(' ').append(x.place(p, 2)).append(' ')
+                    .append(x.place(p, 3)).append(' ').append(x.later(p, 1)).append(' ');
+        }
+        for (int q = 0; q < persons; q++) {
+            s.append("| ").append(x.person(q, 0)).append(' ').append(x.person(q, 1)).append(' ');
+        }
+        for (int o = 0; o < otters; o++) {
+            s.append("| ").append(x.otter(o, 0)).append(' ').append(x.otter(o, 2)).append(' ').append(x.otter(o, 3)).append(' ');
+        }
+        for (int w = 0; w < writs; w++) {
+            s.append("| ").append(x.writ(w, 0)).append(' ').append(x.writ(w, 1)).append(' ').append(x.writ(w, 2)).append(' ');
+        }
+        return s.append("| ").append(x.judged(0)).append(' ').append(x.judged(1)).append(' ').append(x.judged(2)).append(' ')
+                .append(x.rains()).toString();
+    }
+
+    static void equal(String call, String got, String due) {
+        if (!got.equals(due)) {
+            wrong++;
+            System.out.println(about + call + " answered " + got + ", due is " + due);
+        }
+    }
+
+    /** The call answers what is due, and all stays as it was. */
+    static void stays(String call, OtterWrits x, IntSupplier asked, long due) {
+        String ahead = all(x);
+        same(call, asked.getAsInt(), due);
+        equal("all behind " + call, all(x), ahead);
+    }
+
+    static void refused(String call, OtterWrits x, BooleanSupplier asked) {
+        stays(call, x, () -> asked.getAsBoolean() ? 1 : 0, 0);
     }
 
     static void end() {
