@@ -165,6 +165,7 @@ final class AheadEdges {
         Check.same("all 0", Check.told("place pa water 0;").crest(0), 0);
         Check.same("sinks", Check.told("place pa water 4;rain 0;").crest(0), 0);
         Check.same("rises to 9, behind 5", Check.told("place pa water 4;rain 2;").crest(0), 5);
+        Check.same("behind 1", rises(0, 0).crest(0), 1);
         Check.same("behind 60", rises(0, 59).crest(0), 60);
         Check.same("not behind 61", rises(0, 60).crest(0), 0);
         OtterWrits x = Check.told("place pa water 1;wets (date=3)*7+(date=9)*7+(date=20)*6;");

@@ -121,6 +121,7 @@ final class NowEdges {
         Check.same("two without a stream", Check.told(Tell.places(1, 1)).pools(), 2);
         Check.same("two with a dry one between", Check.told(Tell.places(1, 0, 1) + Tell.streams(0, 1, 1, 2)).pools(), 2);
         Check.same("seven", Check.told(Tell.places(1, 2, 3, 4, 5, 6, 7)).pools(), 7);
+        Check.same("two, one within the other's numbers", Check.told(Tell.places(1, 1, 1, 1, 1) + Tell.streams(0, 2, 1, 3, 2, 4)).pools(), 2);
         Check.same("dry ones are none", Check.told(Tell.places(1, 0, 3, 0, 5, 0, 7)).pools(), 4);
     }
 
@@ -514,6 +515,33 @@ final class NowEdges {
         moreOfMarks();
     }
 
+    /** Between the laying and the going back others stand where the held ones stood. */
+    private static void whatMarksHold() {
+        OtterWrits x = marked();
+        x.mark(0, false);
+        x.see(0, 5, true);
+        x.see(1, 7, false);
+        Check.session(x, "take oa wb;swim oa pb;serve wb;serve wa;");
+        x.mark(1, false);
+        int rains = x.rains();
+        x.mark(0, true);
+        x.see(1, 9, false);
+        x.see(0, 9, true);
+        Check.same("other rains", x.rains(), 1023 & -(1 << 5) & (1 << 6) - 1);
+        Check.session(x, "take oa wa;take oa wa;swim oa pb;take oa wb;");
+        x.mark(2, false);
+        Check.same("the second can't be", x.judged(0), 1);
+        x.mark(1, true);
+        Check.same("what is SEEN", x.rains(), 1023 & -(1 << 1) & (1 << 4) - 1);
+        Check.same("as it was", x.rains(), rains);
+        Check.same("the SESSION: the last can't be", x.judged(0), 3);
+        Check.same("the SESSION: the third serves", x.judged(1), 2);
+        x.mark(2, true);
+        Check.same("what is SEEN there", x.rains(), 1 << 5);
+        Check.same("the SESSION there", x.judged(0), 1);
+        Check.same("none serves", x.judged(1), -1);
+    }
+
     private static void moreOfMarks() {
         OtterWrits x = marked();
         x.take(0, 0);
@@ -551,6 +579,7 @@ final class NowEdges {
         Check.no("8 there are", seen.see(0, 1, true));
         seen.mark(1, true);
         Check.yes("there is room again", seen.see(0, 1, true));
+        whatMarksHold();
         OtterWrits tape = marked();
         tape.mark(0, false);
         Check.feed(tape, "day");

@@ -67,6 +67,13 @@ final class ReadingEdges {
         Check.feed(x, Tell.times(" ", 1000));
         Check.same("a full one is taken", x.session(), 0);
         Check.same("it is empty", x.count(12), 0);
+        OtterWrits y = new OtterWrits();
+        Check.same("a longer text", Check.county(y, "rain 12"), 4 + 16 * 5);
+        Check.same("a shorter one, right behind", Check.county(y, "rain 1"), 1 + 16 * 6);
+        Check.same("a longer text", Check.county(y, "wets levels"), 1 + 16 * 5);
+        Check.same("a shorter one, right behind", Check.county(y, "wets level"), 1 + 16 * 10);
+        Check.same("a longer text", Check.county(y, "rain 1;    #"), 1 + 16 * 11);
+        Check.same("a shorter one, right behind", Check.county(y, "rain 1; "), 0);
         Check.same("there is room for all again", Check.feed(x, Tell.times(" ", 1000)), 1000);
     }
 
@@ -597,6 +604,16 @@ final class ReadingEdges {
         law("0 or 0", 0);
         law("7 and 0", 0);
         law("0 and 7", 0);
+        law("(0 or 0) + 5", 5);
+        law("(0 or 3) + 5", 6);
+        law("(0 and 3) + 5", 5);
+        law("(2 and 3) + 5", 6);
+        law("(3 < 3) + 5", 5);
+        law("(2 < 3) + 5", 6);
+        law("(2 = 3) + 5", 5);
+        law("(3 = 3) + 5", 6);
+        law("not 3 + 5", 5);
+        law("not 0 + 5", 6);
         law("0 - 7 and 0 - 1", 1);
         law("0 - 7 or 0", 1);
         law("not (0 - 7)", 0);
@@ -841,6 +858,14 @@ final class ReadingEdges {
         OtterWrits z = busy();
         Check.same("an empty one", Check.county(z, ""), 0);
         Check.equal("as at first", Check.all(z), Check.all(new OtterWrits()));
+        OtterWrits third = busy();
+        Check.same("a second one", Check.county(third, Tell.full()), 0);
+        Check.same("a third one", Check.county(third, PAIR), 0);
+        Check.equal("nothing of the first", Check.all(third), Check.all(Check.told(PAIR)));
+        OtterWrits mended = new OtterWrits();
+        Check.same("a wrong one", Check.county(mended, Tell.full() + "#") % 16, 1);
+        Check.same("a right one", Check.county(mended, PAIR), 0);
+        Check.equal("nothing of the wrong one", Check.all(mended), Check.all(Check.told(PAIR)));
         OtterWrits wrong = busy();
         String ahead = Check.all(wrong);
         Check.same("a wrong one", Check.county(wrong, Tell.full() + "#") % 16, 1);
