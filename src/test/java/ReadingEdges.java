@@ -866,6 +866,10 @@ final class ReadingEdges {
         Check.same("a wrong one", Check.county(mended, Tell.full() + "#") % 16, 1);
         Check.same("a right one", Check.county(mended, PAIR), 0);
         Check.equal("nothing of the wrong one", Check.all(mended), Check.all(Check.told(PAIR)));
+        OtterWrits law = Check.told("wets not 0+not 0;");
+        Check.same("a county between", Check.county(law, ""), 0);
+        Check.same("a shorter law", Check.county(law, "place pa water 1;wets 5;"), 0);
+        Check.same("nothing of the longer law", law.later(0, 1), 5);
         OtterWrits wrong = busy();
         String ahead = Check.all(wrong);
         Check.same("a wrong one", Check.county(wrong, Tell.full() + "#") % 16, 1);
