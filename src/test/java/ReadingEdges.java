@@ -153,6 +153,13 @@ final class ReadingEdges {
         Check.countyFault("wets level + ^123456789;", 1);
         Check.countyFault("wets ^" + Tell.times("9", 300) + ";", 1);
         Check.countyFault("wets ^" + Tell.times("a", 300) + ";", 1);
+        for (char sign : "()<=+-*;".toCharArray()) {
+            String code = "000" + (int) sign;
+            Check.countyFault("wets 1 ^" + code + " 1;", 1);
+            Check.countyFault("wets (1 ^" + code + ";", 1);
+            Check.countyFault("wets ^" + code + "1);", 1);
+            Check.countyFault("rain 1 ^" + code, 1);
+        }
         OtterWrits x = Check.told(SMALL);
         Check.sessionFault(x, "take oa ^waaaaaaaa;", 1);
         Check.sessionFault(x, "serve ^12345;", 1);
